@@ -15,6 +15,7 @@ public final class BoltsTest {
         turning();
         rain();
         undoing();
+        nothingStaysBehind();
         tenAreKnown();
         refusedIsNotUndone();
         CHECK.finish("BoltsTest");
@@ -99,6 +100,11 @@ public final class BoltsTest {
         CHECK.due("no NOWHERE with a town at the end, the start, between", y.now(3), 0);
         CHECK.due("STEEP of the flat", y.now(4), 0);
         CHECK.due("one town is one PIECE", y.now(2), 1);
+        WovenRoads z = Check.landOf("t5;h3 6;");
+        Check.addBolt(z, 0, "2");
+        CHECK.due("NOWHERE by one ell", z.now(3), 1);
+        CHECK.due("STEEP down a column", z.now(4), 6);
+        CHECK.due("a road up to the first row", z.road(3, 0), 1);
     }
 
     private static void leastSlope() {
@@ -236,6 +242,30 @@ public final class BoltsTest {
         CHECK.boltIs(x, 0, "0:");
         CHECK.due("a rain by which an ell is lost", x.undo(), 0);
         CHECK.boltIs(x, 0, "0:1");
+    }
+
+    /** What an undone or frayed bolt had must not come again with the next one. */
+    private static void nothingStaysBehind() {
+        WovenRoads x = Check.landOf("g4 3;t11;");
+        Check.addBolt(x, 0, "11");
+        x.undo();
+        x.undo();
+        x.undo();
+        CHECK.due("begun anew", x.begins(5), 0);
+        CHECK.boltIs(x, 0, "5:");
+        CHECK.due("ELLS", x.now(1), 0);
+        Check.addBolt(x, 0, "11");
+        Check.addBolt(x, 8, "1");
+        x.undo();
+        x.undo();
+        CHECK.due("BOLTS", x.now(0), 2);
+        x.undo();
+        x.undo();
+        x.undo();
+        CHECK.due("ELLS of those that are left", x.now(1), 0);
+        CHECK.due("rain finds nothing", x.rain(), 0);
+        CHECK.due("NOWHERE", x.now(3), 0);
+        CHECK.due("no road", x.now(4), WovenRoads.NONE);
     }
 
     private static void tenAreKnown() {

@@ -97,6 +97,12 @@ public final class JoinedTest {
         x.undo();
         Check.addBolt(x, 2, "2");
         CHECK.due("three are one seam", x.way(0, 4), 5);
+        WovenRoads shorts = Check.landOf("g3 2;");
+        Check.addBolt(shorts, 0, "1");
+        shorts.begins(1);
+        CHECK.due("a bolt without ells makes no seam", shorts.way(0, 1), 1);
+        Check.addBolt(shorts, 2, "3");
+        CHECK.due("a seam of bolts of one ell", shorts.way(0, 2), 3);
         WovenRoads y = Check.landOf("g3 2;");
         Check.addBolt(y, 0, "1203");
         CHECK.due("a bolt that passes is no seam", y.way(0, 4), 2);
@@ -126,6 +132,10 @@ public final class JoinedTest {
         CHECK.due("of as few the least", y.darners(1), 2);
         Check.addBolt(y, 2, "1");
         CHECK.due("one on each road", y.darners(1), 1 + 2);
+        WovenRoads z = Check.landOf("g2 3;t0;t2;t5;");
+        Check.addBolt(z, 0, "22");
+        CHECK.due("down a column, the last cell is no town", z.darners(0), WovenRoads.NONE);
+        CHECK.due("down a column", z.darners(1), 2);
     }
 
     private static void dueOdds(WovenRoads x, int p, int n, int upper, int lower) {

@@ -33,6 +33,8 @@ public final class KindsTest {
         CHECK.due("LANE of an empty one", x.rate(1, 1), 8);
         x.rain();
         CHECK.due("BOLT behind rain", x.rate(0, 2), 3);
+        Check.addBolt(x, 0, "111");
+        CHECK.due("DREAM by the roads of now", x.rate(5, 0), 2);
     }
 
     private static void traces() {

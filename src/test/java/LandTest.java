@@ -114,6 +114,10 @@ public final class LandTest {
         CHECK.due("greater anew", Check.tell(x, "g5 4;"), 1);
         CHECK.due("old height is gone", x.height(11), 0);
         CHECK.due("height of the text before is gone", x.height(0), 0);
+        x.begins(19);
+        CHECK.due("nothing told", Check.tell(x, ""), 0);
+        CHECK.due("w as at first, too", x.count(0), 3);
+        CHECK.due("no bolts, too", x.now(0), 0);
     }
 
     private static void fault(String text, int place) {

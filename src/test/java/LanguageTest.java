@@ -84,7 +84,8 @@ public final class LanguageTest {
             publicNames.add(method.substring(method.indexOf(' ') + 1, method.indexOf('(')));
         }
         for (Field field : WovenRoads.class.getDeclaredFields()) {
-            CHECK.holds(field + " is public or private", (field.getModifiers() & (Modifier.PUBLIC | Modifier.PRIVATE)) != 0);
+            boolean told = (field.getModifiers() & (Modifier.PUBLIC | Modifier.PRIVATE)) != 0;
+            CHECK.holds(field + " is public or private", told);
         }
         for (Class<?> owner : classes()) {
             for (Method method : owner.getDeclaredMethods()) {
