@@ -2,13 +2,19 @@
 final class Check {
     private int passed = 0;
     private int failed = 0;
+    private String sentence = "";
+
+    /** The words of the document on which the checks that follow stand: they are printed with what is not as due. */
+    void told(String words) {
+        sentence = " [" + words + "]";
+    }
 
     void due(String call, long got, long want) {
         if (got == want) {
             passed++;
         } else {
             failed++;
-            System.out.println(call + " answered " + got + ", due is " + want);
+            System.out.println(call + " answered " + got + ", due is " + want + sentence);
         }
     }
 
