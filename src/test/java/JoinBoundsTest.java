@@ -219,6 +219,14 @@ public final class JoinBoundsTest {
         CHECK.due("to weave in a greater land", x.toWeave(), 7);
         CHECK.due("land", Check.tell(x, "g2 2;t0;t3;"), 3);
         CHECK.due("to weave in a smaller land", x.toWeave(), 2);
+        for (String towns : new String[] {"t0;t15;m1;", "t0;t15;t9;m1;", "t15;t12;t5;t0;m1;"}) {
+            WovenRoads most = snake(towns);
+            for (int time = 0; time < 3; time++) {
+                CHECK.due("the most, time " + time, most.toWeave(), 19);
+            }
+            Check.tell(most, "g5 4;t0;t4;t15;t19;");
+            CHECK.due("less, behind the most", most.toWeave(), 10);
+        }
     }
 
     // ---- ways

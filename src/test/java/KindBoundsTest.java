@@ -17,6 +17,7 @@ public final class KindBoundsTest {
         imageNumbers();
         imageOfNoBolts();
         imagesForThemselves();
+        imagesOfTheMost();
         imageIsACopy();
         imageKeptAgain();
         imagesKeepBoltsAlone();
@@ -224,6 +225,31 @@ public final class KindBoundsTest {
         CHECK.boltIs(x, 2, "18:");
         CHECK.boltIs(x, 3, "7:");
         CHECK.due("full", x.begins(0), WovenRoads.FULL);
+    }
+
+    private static void imagesOfTheMost() {
+        CHECK.told("IMAGES .. keep NOW: four BOLTS of 12 CARDS; so does what may be UNDONE");
+        WovenRoads x = Check.landOf("g5 4;");
+        for (int b = 0; b < 4; b++) {
+            Check.addBolt(x, 5 * b, "131313131311");
+        }
+        x.keep(0);
+        x.keep(1);
+        for (int b = 0; b < 4; b++) {
+            x.turnAbout(b);
+        }
+        String turned = " bolts 2:331313131313 7:331313131313 12:331313131313 17:331313131313";
+        CHECK.holds("turned about", Unchanged.bolts(x).equals(turned));
+        x.rain();
+        x.rain();
+        x.undo();
+        x.undo();
+        CHECK.holds("undone", Unchanged.bolts(x).equals(turned));
+        String kept = " bolts 0:131313131311 5:131313131311 10:131313131311 15:131313131311";
+        for (int image = 0; image < 2; image++) {
+            CHECK.due("back(" + image + ")", x.back(image), 4);
+            CHECK.holds("image " + image, Unchanged.bolts(x).equals(kept));
+        }
     }
 
     private static void imageIsACopy() {
