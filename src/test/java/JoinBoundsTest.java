@@ -18,19 +18,24 @@ public final class JoinBoundsTest {
         toWeaveNone();
         toWeaveTheMost();
         toWeaveBesideRows();
+        toWeaveThoughNoBoltIsLeft();
         toWeaveBehindOthers();
         wayToItself();
         wayNone();
         wayTheLongest();
         seams();
         seamsOfAnyTwo();
+        seamsByAnyRoad();
+        seamsOnTowns();
         seamsReadAnew();
         wrongWithoutCards();
         wrongOfOneCard();
         wrongOfTwelve();
+        wrongOverItself();
         lookNumbers();
         lookOfOneCard();
         looksNotCounted();
+        lookOnItself();
         darnersWithoutRoads();
         darnersNone();
         darnersByElls();
@@ -40,6 +45,7 @@ public final class JoinBoundsTest {
         oddsByAllNumbers();
         oddsThatRainIsSure();
         nowhere();
+        nowhereThoughJoined();
         steep();
         leastSlope();
         CHECK.finish("JoinBoundsTest");
@@ -204,6 +210,19 @@ public final class JoinBoundsTest {
         CHECK.due("a road on the same way", x.toWeave(), 2);
     }
 
+    private static void toWeaveThoughNoBoltIsLeft() {
+        CHECK.told("ELLS more (they need be no BOLT's)");
+        WovenRoads x = Check.landOf("g5 4;t0;t4;t15;t19;");
+        for (int b = 0; b < 4; b++) {
+            CHECK.due("to weave with " + b + " bolts", x.toWeave(), b == 0 ? 10 : 9);
+            Check.addBolt(x, 0, "131313131313");
+        }
+        CHECK.due("no bolt more", x.begins(0), WovenRoads.FULL);
+        CHECK.due("no card more", x.weaves(3, 1), WovenRoads.FULL);
+        CHECK.due("to weave still", x.toWeave(), 9);
+        CHECK.due("more than all bolts could have", snake("t0;t15;m1;").toWeave(), 19);
+    }
+
     /** What a call finds must not lean on what another one left, nor on the land before. */
     private static void toWeaveBehindOthers() {
         CHECK.told("TO WEAVE, LEAST SLOPE: by what is now");
@@ -334,6 +353,30 @@ public final class JoinBoundsTest {
         }
     }
 
+    private static void seamsByAnyRoad() {
+        CHECK.told("1 on a CELL that is come to, if two BOLTS .. begin or end there, by whichever ROAD");
+        WovenRoads x = Check.landOf("g3 3;");
+        Check.addBolt(x, 3, "11");
+        Check.addBolt(x, 1, "2");
+        CHECK.due("one ends on 4, one goes over it", x.way(3, 5), 2);
+        Check.addBolt(x, 7, "0");
+        CHECK.due("two end on 4, to it by the third", x.way(3, 4), 2);
+        CHECK.due("over it by the third", x.way(3, 5), 3);
+        CHECK.due("and back", x.way(5, 3), 3);
+        CHECK.due("from one of the two to the third", x.way(1, 5), 3);
+        CHECK.due("from it", x.way(4, 5), 1);
+    }
+
+    private static void seamsOnTowns() {
+        CHECK.told("a SEAM on a CELL with a TOWN, and on a high one");
+        WovenRoads x = Check.landOf("g5 2;t2;h2 3;");
+        Check.addBolt(x, 0, "11");
+        Check.addBolt(x, 4, "33");
+        CHECK.due("to the town", x.way(0, 2), 2 + 3 + 1);
+        CHECK.due("over the town", x.way(0, 4), 4 + 3 + 1);
+        CHECK.due("from the town", x.way(2, 4), 2);
+    }
+
     private static void seamsReadAnew() {
         CHECK.told("Read anew: .. no BOLTS: no SEAM of those before");
         WovenRoads x = Check.landOf("g5 4;");
@@ -411,6 +454,19 @@ public final class JoinBoundsTest {
         CHECK.due("down for up", steep.wrong(0, 12, 1), 4 * 7 + 2);
     }
 
+    private static void wrongOverItself() {
+        CHECK.told("none may be a BEND AT NOTHING: a CELL that it has been on is none");
+        WovenRoads x = Check.landOf("g5 4;");
+        Check.addBolt(x, 6, "111");
+        CHECK.due("6, 5, 6, 7; 6, 7, 6, 7; 6, 7, 8, 7", x.wrong(0, 7, 0), 3);
+        CHECK.due("the first of them", x.wrong(0, 7, 1), 3);
+        WovenRoads y = Check.landOf("g5 4;");
+        Check.addBolt(y, 6, "11");
+        Check.addBolt(y, 6, "2");
+        CHECK.due("on its own first cell: 5, 6 and 7, 6", y.wrong(0, 6, 0), 2);
+        CHECK.due("where another bolt is", y.wrong(0, 12, 0), 2);
+    }
+
     private static void lookNumbers() {
         CHECK.told("behind i CARDS (1 .. as many as there are)");
         WovenRoads x = Check.landOf("g5 4;");
@@ -451,6 +507,17 @@ public final class JoinBoundsTest {
         CHECK.due("the last card alone can be another one", last.look(0, 1), 0);
         CHECK.due("3", last.look(0, 2), 1);
         CHECK.due("BAD behind it", last.look(0, 3), BAD);
+    }
+
+    private static void lookOnItself() {
+        CHECK.told("that where it is behind them now is not counted: that one alone");
+        WovenRoads x = Check.landOf("g5 4;");
+        Check.addBolt(x, 6, "123");
+        CHECK.due("1, and 11, where it ends", x.look(0, 1), 2);
+        CHECK.due("2, 8, 16, and 6, where it begins", x.look(0, 2), 4);
+        WovenRoads y = Check.landOf("g5 4;");
+        Check.addBolt(y, 6, "11");
+        CHECK.due("2, 12, and 6, where it begins", y.look(0, 2), 3);
     }
 
     // ---- darners
@@ -662,6 +729,20 @@ public final class JoinBoundsTest {
         Check.tell(anew, "g5 4;t2;");
         Check.addBolt(anew, 0, "1");
         CHECK.due("a town where a bolt of the land before went", anew.now(3), 1);
+    }
+
+    private static void nowhereThoughJoined() {
+        CHECK.told("NOWHERE: .. no TOWN on any of their CELLS: theirs alone");
+        WovenRoads x = Check.landOf("g5 4;t0;t4;");
+        Check.addBolt(x, 0, "11");
+        Check.addBolt(x, 2, "1");
+        CHECK.due("joined to a town by another bolt", x.joined(3, 0), 1);
+        CHECK.due("the second one has no town of its own", x.now(3), 2);
+        Check.addBolt(x, 4, "3");
+        CHECK.due("joined to two towns", x.joined(3, 4), 1);
+        CHECK.due("the second one still", x.now(3), 2);
+        x.weaves(1, 1);
+        CHECK.due("not when it ends on one", x.now(3), 0);
     }
 
     private static void steep() {
